@@ -923,7 +923,7 @@ public final class LeanMarks {
             if (!within(x, 0, columns - 1) || x >= WIDEST) {
                 return false;
             }
-            int free = freeLines(x) & ~taken;
+            int free = freeLines(x, taken);
             if (x == columns - 1) {
                 return endIn(x, free);
             }
@@ -940,9 +940,9 @@ public final class LeanMarks {
             return false;
         }
 
-        private int freeLines(int x) {
-            int free = allowed[x];
-            for (int d = 1; d <= x; d++) {
+        private int freeLines(int x, int taken) {
+            int free = allowed[x] & ~taken;
+            for (int d = 1; d <= x && free != 0; d++) {
                 free &= ~(standing[d] >>> (MIDDLE - line[x - d]));
             }
             return free;
