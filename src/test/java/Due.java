@@ -5,6 +5,8 @@ final class Due {
     private final String test;
     private int asked = 0;
     private int wrong = 0;
+    private int sentences = 0;
+    private String sentence = "";
 
     Due(String test) {
         this.test = test;
@@ -15,6 +17,26 @@ final class Due {
         asked++;
         if (got != want) {
             fail("promise " + promise + ": " + call + " answered " + got + ", due is " + want);
+        }
+    }
+
+    /** What is asked by asked() from here on would break these words of the document (0: of no promise alone). */
+    void sentence(int promise, String words) {
+        sentences++;
+        sentence = (promise == 0 ? "all promises" : "promise " + promise) + ", \"" + words + "\": ";
+    }
+
+    void asked(String call, long got, long want) {
+        asked++;
+        if (got != want) {
+            fail(sentence + call + " answered " + got + ", due is " + want);
+        }
+    }
+
+    void unchanged(String call, String got, String want) {
+        asked++;
+        if (!got.equals(want)) {
+            fail(sentence + call + " changed something: " + got + ", without it " + want);
         }
     }
 
@@ -37,7 +59,8 @@ final class Due {
     }
 
     void end() {
-        System.out.println(test + ": " + asked + " asked, " + wrong + " wrong");
+        String of = sentences == 0 ? "" : " of " + sentences + " sentences";
+        System.out.println(test + ": " + asked + " asked" + of + ", " + wrong + " wrong");
         if (wrong > 0 || asked == 0) {
             System.exit(1);
         }
