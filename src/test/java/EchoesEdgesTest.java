@@ -74,9 +74,16 @@ public final class EchoesEdgesTest {
         x.due(FULL, "hear", 30, 20);
         x.due(40, "count", 2);
         // The fortieth is heard, the one behind it is not.
-        x.due(1, "row", 0, 1, 1, 0);
         x.due(NO, "hear", 39 % 31, 20);
         x.due(FULL, "hear", 40 % 31, 20);
+        // A ROW is FOUND by the fortieth alone: all before it come too late.
+        Calls y = new Calls(DUE);
+        for (int i = 0; i < 39; i++) {
+            y.due(i + 1, "hear", 20 + i % 10, i / 10);
+        }
+        foundDue(y, 0, 0, 0, -20);
+        y.due(40, "hear", 3, 4);
+        foundDue(y, 0, 1, 3, 4);
     }
 
     private static void hearOnce() {

@@ -97,6 +97,13 @@ public final class HitsEdgesTest {
             x.due(1, "hits", 0, 0, n, 0, ROUND);
             x.due(1, "hits", 0, 0, -n, 0, ROUND);
             x.due(n == 1 ? 1 : 0, "hits", 0, 1, 0, 0, ROUND);
+            // It is by b's columns, whether a has fewer (one) or more (twelve).
+            x.due(1, "row", 2, 1, 1, 0);
+            x.due(1, "row", 3, 12, 1, 0);
+            x.due(1, "hits", 2, 0, -1, 0, ROUND);
+            x.due(1, "hits", 2, 0, n - 1, 0, ROUND);
+            x.due(1, "hits", 3, 0, 12, 0, ROUND);
+            x.due(1, "hits", 3, 1, -12, 0, ROUND);
         }
     }
 
@@ -112,11 +119,16 @@ public final class HitsEdgesTest {
             x.due(1, "hits", 0, 0, 0, m, ROUND);
             x.due(1, "hits", 0, 0, 0, -m, ROUND);
             x.due(m == 1 ? 1 : 0, "hits", 0, 1, 0, 0, ROUND);
+            // It is by b's LINES, whether a has fewer or more.
+            x.due(1, "row", 2, 1, 1, 0);
+            x.due(1, "row", 3, 1, 12, m - 1);
+            x.due(1, "hits", 2, 0, 0, -1, ROUND);
+            x.due(1, "hits", 3, 1, 0, 1, ROUND);
         }
     }
 
     private static void roundTwelve() {
-        DUE.sentence(11, "(-12 to 12 each) .. ROUND: the same by x + dx modulo the columns of b and y + dy modulo its LINES");
+        DUE.sentence(11, "(-12 to 12 each) .. ROUND: .. modulo the columns of b and y + dy modulo its LINES");
         for (int n = 1; n <= 12; n++) {
             for (int m = 1; m <= 12; m++) {
                 Calls x = new Calls(DUE);

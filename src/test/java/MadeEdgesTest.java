@@ -6,7 +6,8 @@ public final class MadeEdgesTest {
     private static final int[] PRIMES = {3, 5, 7, 11, 13};
     /** Columns, LINES and marks of ROWS that are no SQUARE, each for one reason alone but the last two. */
     private static final long[][] NOT_SQUARE = {{3, 4, 0x012}, {2, 3, 0x12}, {1, 2, 0x0}, {1, 12, 0xB}, {3, 3, 0x01F},
-        {3, 3, 0xF01}, {1, 1, 0xF}, {12, 12, 0x0123456789AFL}, {3, 3, 0x011}, {2, 2, 0x00}, {12, 12, 0x0123456789A0L},
+        {3, 3, 0xF01}, {1, 1, 0xF}, {12, 12, 0x0123456789AFL}, {3, 3, 0x011}, {2, 2, 0x00}, {2, 2, 0x11}, {3, 3, 0x121},
+        {12, 12, 0x0123456789A0L}, {12, 12, 0xB123456789ABL},
         {2, 1, 0x00}, {12, 11, 0x0123456789A0L}};
 
     public static void main(String[] args) {
@@ -38,7 +39,7 @@ public final class MadeEdgesTest {
     }
 
     private static void powersPrimes() {
-        DUE.sentence(18, "POWERS by a prime p (3, 5, 7, 11, 13): .. p - 1 columns and LINES");
+        DUE.sentence(18, "POWERS by a prime p (3, 5, 7, 11, 13) .. p - 1 columns and LINES");
         int[] root = {2, 2, 3, 2, 2};
         for (int i = 0; i < PRIMES.length; i++) {
             Calls x = new Calls(DUE);
@@ -93,8 +94,8 @@ public final class MadeEdgesTest {
         DUE.sentence(18, "NO, if that is no SQUARE");
         Calls x = new Calls(DUE);
         x.due(1, "row", 0, 2, 3, 0x2F);
-        int[][] noRoots = {{5, 4}, {7, 2}, {7, 4}, {7, 6}, {11, 3}, {11, 4}, {11, 5}, {11, 9}, {11, 10}, {13, 3}, {13, 4},
-            {13, 5}, {13, 8}, {13, 9}, {13, 10}, {13, 12}};
+        int[][] noRoots = {{5, 4}, {7, 2}, {7, 4}, {7, 6}, {11, 3}, {11, 4}, {11, 5}, {11, 9}, {11, 10},
+            {13, 3}, {13, 4}, {13, 5}, {13, 8}, {13, 9}, {13, 10}, {13, 12}};
         for (int[] told : noRoots) {
             x.due(NO, "powers", told[0], told[1], 0, 0);
             x.due(NO, "powers", told[0], told[1], told[0] - 2, 0);
@@ -285,7 +286,7 @@ public final class MadeEdgesTest {
     }
 
     private static void cornerPlaces() {
-        DUE.sentence(22, "A CORNER c (0: column 0, line 0; 1: the last column, line 0; 2: column 0, the last line; 3: both last)");
+        DUE.sentence(22, "(0: column 0, line 0; 1: the last column, line 0; 2: column 0, the last line; 3: both last)");
         long[] set = {0x0213, 0x2130, 0x3102, 0x1023};
         for (int c = 0; c < 4; c++) {
             Calls x = new Calls(DUE);
@@ -321,7 +322,8 @@ public final class MadeEdgesTest {
     private static void cornerOffNotThere() {
         DUE.sentence(22, "that has its mark there .. NO else");
         // Marks, and which corners have one (1 for corner 0, 2 for 1, 4 for 2, 8 for 3).
-        long[][] rows = {{0x0213, 1 + 8}, {0x0231, 1}, {0x2130, 2}, {0x3102, 4}, {0x1023, 8}, {0x3120, 2 + 4}, {0x1302, 0}};
+        long[][] rows = {{0x0213, 1 + 8}, {0x0231, 1}, {0x2130, 2}, {0x3102, 4}, {0x1023, 8}, {0x3120, 2 + 4},
+            {0x1302, 0}};
         for (long[] row : rows) {
             for (int c = 0; c < 4; c++) {
                 Calls x = new Calls(DUE);

@@ -1,4 +1,4 @@
-/** The paragraph on BAD, NO, NONE and FULL, call by call, on an object that is full of everything; and the last call. */
+/** The paragraph on BAD, NO, NONE and FULL, call by call, on an object full of everything; and the last call. */
 public final class RefusedEdgesTest {
     private static final Due DUE = new Due("RefusedEdgesTest");
     private static final int BAD = LeanMarks.BAD, NO = LeanMarks.NO, FULL = LeanMarks.FULL, NONE = LeanMarks.NONE;

@@ -253,6 +253,12 @@ public final class SearchedEdgesTest {
         }
         x.due(14380, "rows", 8, 6, 0, COUNT, 0);
         x.due(0, "rows", 8, 6, 1, COUNT, 0);
+        // A search among SQUARES leaves nothing behind that a search among ROWS could heed.
+        x.due(2, "squares", 2, COUNT, 0);
+        x.due(4, "rows", 2, 2, 0, COUNT, 0);
+        x.due(4, "longest", 2, 0);
+        x.due(2, "squares", 2, COUNT, 0);
+        x.due(4, "longest", 2, 0);
         x.rowDue(0, 1, 1, 0);
     }
 

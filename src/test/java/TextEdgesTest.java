@@ -299,7 +299,7 @@ public final class TextEdgesTest {
     }
 
     private static void layColumns() {
-        DUE.sentence(6, "its rows as ROWS .. of 1 to 12 columns each, letters a to l (lines 0 to 11), . (none)");
+        DUE.sentence(6, "its rows as ROWS .. letters a to l (lines 0 to 11), . (none) .. of 1 to 12 columns each");
         Calls x = with("abcdefghijkl;lkjihgfedcba;............;.;l;a;");
         x.due(6, "lay", 12);
         x.rowDue(0, 12, 12, 0x0123456789ABL);
