@@ -179,21 +179,23 @@ public final class EchoesEdgesTest {
 
     private static void foundMoved() {
         DUE.sentence(25, "moved (-20 to 20 lines)");
-        for (int line : new int[] {0, 1, 11}) {
-            for (int moved = -21; moved <= 21; moved++) {
-                int heard = line + moved;
-                if (heard < -20 || heard > 20) {
-                    continue;
-                }
-                Calls x = new Calls(DUE);
-                x.due(1, "row", 0, 1, 12, line);
-                x.due(1, "hear", 4, heard);
-                if (moved >= -20 && moved <= 20) {
-                    foundDue(x, 0, 1, 4, moved);
-                } else {
-                    foundDue(x, 0, 0, 0, -20);
-                }
+        for (int late : new int[] {0, 4, 18}) {
+            for (int heard = -20; heard <= 20; heard++) {
+                foundMovedDue(late, 0, heard);
+                foundMovedDue(late, 1, heard);
+                foundMovedDue(late, 11, heard);
             }
+        }
+    }
+
+    private static void foundMovedDue(int late, int line, int heard) {
+        Calls x = new Calls(DUE);
+        x.due(1, "row", 0, 1, 12, line);
+        x.due(1, "hear", late, heard);
+        if (heard - line >= -20) {
+            foundDue(x, 0, 1, late, heard - line);
+        } else {
+            foundDue(x, 0, 0, 0, -20);
         }
     }
 

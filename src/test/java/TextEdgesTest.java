@@ -334,6 +334,9 @@ public final class TextEdgesTest {
             if (m > 1) {
                 x.due(NO, "lay", m - 1);
                 x.rowDue(2, 1, m, m - 1);
+                // The first byte alone may be it.
+                with(last + "a;a;").due(NO, "lay", m - 1);
+                with(last + ";").due(NO, "lay", m - 1);
                 // The last column of the last row is looked at before the first is laid.
                 Calls y = with("a;a;aaa" + last + ";");
                 y.due(NO, "lay", m - 1);
