@@ -9,6 +9,7 @@ import java.util.Arrays;
 import java.util.List;
 import java.util.Set;
 import java.util.TreeSet;
+import java.util.regex.Matcher;
 import java.util.regex.Pattern;
 
 /** The document's face, the rules of LANGUAGE.md that can be read off the class, and the room that calls need. */
@@ -25,6 +26,17 @@ public final class FaceTest {
     private static final String[] NEVER = {"->", "::", "\\btry\\b", "\\bcatch\\b", "\\bthrow\\b", "\\bfinally\\b",
         "\\bsynchronized\\b", "\\bassert\\b", "\\bstatic\\s*\\{", "Exact\\(", "\\bvar\\b", "^package", "System\\.(?!arraycopy)",
         "Random", "Thread", "\\bdouble\\b", "\\bfloat\\b"};
+    /** The static functions that rule 4 of LANGUAGE.md tells by name; it allows their like too, so this may grow. */
+    private static final Set<String> LIBRARY = Set.of("Arrays.fill", "Arrays.copyOf", "Arrays.copyOfRange",
+        "System.arraycopy", "Math.max", "Math.min", "Math.abs", "Math.floorDiv", "Math.floorMod", "Integer.compare",
+        "Integer.bitCount", "Long.compare", "Long.bitCount");
+    private static final Set<String> IMPORTS = Set.of("java.util.Arrays", "java.util.ArrayList", "java.util.List");
+    private static final Pattern STATIC_CALL = Pattern.compile("\\b([A-Z]\\w*\\.\\w+)\\(");
+    private static final Pattern IMPORT = Pattern.compile("^import (.*);$", Pattern.MULTILINE);
+    private static final Pattern METHOD = Pattern.compile(
+        "^(    |        )(?!(?:if|for|while|switch|do|else)\\b)\\w[^;={}]*\\([^;={}]*\\) \\{\n(.*?)^\\1\\}$",
+        Pattern.MULTILINE | Pattern.DOTALL);
+    private static final int LONGEST_METHOD = 60;
 
     public static void main(String[] args) throws Exception {
         constants();
@@ -32,6 +44,8 @@ public final class FaceTest {
         fields();
         nested();
         source();
+        library();
+        lengths();
         room();
         DUE.end();
     }
@@ -111,13 +125,52 @@ public final class FaceTest {
         }
     }
 
+    private static String text() throws Exception {
+        return Files.readString(Path.of("src/main/java/LeanMarks.java"));
+    }
+
+    private static String withoutComments(String all) {
+        return all.replaceAll("(?s)/\\*.*?\\*/", "").replaceAll("//[^\n]*", "");
+    }
+
     private static void source() throws Exception {
-        String all = Files.readString(Path.of("src/main/java/LeanMarks.java"));
-        String code = all.replaceAll("(?s)/\\*.*?\\*/", "").replaceAll("//[^\n]*", "");
+        String all = text();
+        String code = withoutComments(all);
         for (String word : NEVER) {
             DUE.holds("the source holds " + word, !Pattern.compile(word, Pattern.MULTILINE).matcher(code).find());
         }
         DUE.holds("signs 1 to 127 alone", all.chars().allMatch(c -> c > 0 && c < 128));
+    }
+
+    private static void library() throws Exception {
+        String code = withoutComments(text());
+        Matcher call = STATIC_CALL.matcher(code);
+        while (call.find()) {
+            DUE.holds("the source calls " + call.group(1), LIBRARY.contains(call.group(1)));
+        }
+        Matcher imported = IMPORT.matcher(code);
+        while (imported.find()) {
+            DUE.holds("the source imports " + imported.group(1), IMPORTS.contains(imported.group(1)));
+        }
+    }
+
+    /** Rule 11; each method of the source is to be seen, so that a long one cannot slip through. */
+    private static void lengths() throws Exception {
+        int seen = 0;
+        Matcher method = METHOD.matcher(text());
+        while (method.find()) {
+            seen++;
+            long lines = method.group(2).lines().count();
+            DUE.holds("a method has " + lines + " lines: " + method.group().lines().findFirst().orElse(""),
+                lines <= LONGEST_METHOD);
+        }
+        int there = 1;
+        for (Class<?> type : allClasses()) {
+            for (Method one : type.getDeclaredMethods()) {
+                there += one.isSynthetic() ? 0 : 1;
+            }
+        }
+        DUE.is(0, "methods seen in the source, and the constructor", seen, there);
     }
 
     /** Calls make no objects, so that the room holds what the constructor made and no more. */
